@@ -15,9 +15,12 @@ public final class BinDesk {
     private final int[] bins = new int[MOST_ITEMS];
     private final int[] loads = new int[MOST_ITEMS];
 
+    // The best packing that packFirst has met, kept while its search goes on.
     private final int[] firstBins = new int[MOST_ITEMS];
 
     private int binSize;
+
+    // Bit i for item i: an item that is gone leaves its size in sizes.
     private int present;
 
     public BinDesk(int size) {
@@ -30,7 +33,7 @@ public final class BinDesk {
         }
         for (int i = 0; i < MOST_ITEMS; i++) {
             if (!isIn(present, i)) {
-                present = present | 1 << i;
+                present = present | (1 << i);
                 sizes[i] = s;
                 return i;
             }
@@ -97,6 +100,7 @@ public final class BinDesk {
     public int spare() {
         int count = packFirst(present);
         int most = 0;
+        // With no items one more needs a bin of its own.
         boolean more = count > 0;
         startGroupings();
         for (int step = 0; more && step < MOST_STEPS; step++) {
@@ -147,7 +151,7 @@ public final class BinDesk {
     }
 
     private static boolean isIn(int set, int i) {
-        return (set >> i & 1) == 1;
+        return (set & (1 << i)) != 0;
     }
 
     private boolean isItem(int i) {
@@ -177,9 +181,6 @@ public final class BinDesk {
      * The packings come in dictionary order, so of those with one count the earliest is kept.
      */
     private int packFirst(int set) {
-        if (set == 0) {
-            return 0;
-        }
         int best = MOST_ITEMS + 1;
         boolean more = true;
         startGroupings();
