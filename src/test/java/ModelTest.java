@@ -6,26 +6,21 @@ import java.util.List;
  * working with the class: all small cases, then many runs drawn from a fixed sequence of numbers.
  */
 public final class ModelTest {
-    private static final int CALLS_OF_AN_OBJECT = 512;
     private static final int[] ODD_NUMBERS = {
-        Integer.MIN_VALUE, -61, -2, -1, 0, 8, 9, 32, 61, 64, 256, Integer.MAX_VALUE
+        Integer.MIN_VALUE, -61, -32, -2, -1, 0, 8, 9, 32, 61, 64, 256, Integer.MAX_VALUE
     };
 
-    private static int wrong = 0;
     private static long drawn = 20261115L;
 
     public static void main(String[] args) {
         everySmallCase();
-        for (int run = 0; run < 1500; run++) {
-            drawnRun(run, 60);
+        for (int run = 0; run < 2500; run++) {
+            closelySeenRun(run);
         }
-        for (int run = 1500; run < 1540; run++) {
-            drawnRun(run, CALLS_OF_AN_OBJECT);
+        for (int run = 0; run < 250; run++) {
+            longestRun(run);
         }
-        System.out.println(wrong == 0 ? "all answers are as due" : wrong + " answers are not as due");
-        if (wrong != 0) {
-            System.exit(1);
-        }
+        Check.end();
     }
 
     private static void everySmallCase() {
@@ -33,7 +28,7 @@ public final class ModelTest {
             for (int count = 0; count <= 4; count++) {
                 int cases = (int) Math.pow(size, count);
                 for (int code = 0; code < cases; code++) {
-                    BinDesk desk = new BinDesk(size);
+                    Desk desk = new Desk(size);
                     Model model = new Model(size);
                     int rest = code;
                     for (int k = 0; k < count; k++) {
@@ -47,27 +42,46 @@ public final class ModelTest {
         }
     }
 
-    private static void drawnRun(int run, int calls) {
-        int size = draw(10) == 0 ? odd() : draw(60) + 1;
-        BinDesk desk = new BinDesk(size);
+    /** Few calls, but the state is looked at after each, and every question is asked at last. */
+    private static void closelySeenRun(int run) {
+        int size = drawBinSize();
+        Desk desk = new Desk(size);
         Model model = new Model(size);
-        // Small items make many packings, large ones few.
-        int reach = draw(4) + 1;
-        for (int k = 0; k < calls && wrong < 50; k++) {
-            step("run " + run + " call " + k, desk, model, reach);
-            compareState("run " + run + " after call " + k, desk, model);
+        int reach = drawReach();
+        for (int k = 0; k < 24 && !Check.tooManyWrong(); k++) {
+            String where = "run " + run + " call " + k;
+            step(where, desk, model, reach);
+            compareState(where, desk, model);
         }
-        if (calls < CALLS_OF_AN_OBJECT / 2) {
-            compareAll("run " + run, desk, model);
+        compareAll("run " + run, desk, model);
+    }
+
+    /** As many calls as an object is promised to answer. */
+    private static void longestRun(int run) {
+        int size = drawBinSize();
+        Desk desk = new Desk(size);
+        Model model = new Model(size);
+        int reach = drawReach();
+        for (int k = 0; k < Desk.MOST_CALLS && !Check.tooManyWrong(); k++) {
+            step("long run " + run + " call " + k, desk, model, reach);
         }
     }
 
-    private static void step(String where, BinDesk desk, Model model, int reach) {
+    private static int drawBinSize() {
+        return draw(10) == 0 ? odd() : draw(60) + 1;
+    }
+
+    /** Small items make many packings, large ones few. */
+    private static int drawReach() {
+        return draw(4) + 1;
+    }
+
+    private static void step(String where, Desk desk, Model model, int reach) {
         int i = item();
         int j = item();
         int s = drawSize(model.size, reach);
         int n = draw(12) == 0 ? odd() : draw(9) + 1;
-        switch (draw(20)) {
+        switch (draw(23)) {
             case 0, 1, 2, 3, 4, 5, 6 -> due(where, "add(" + s + ")", desk.add(s), model.add(s));
             case 7, 8 -> due(where, "remove(" + i + ")", desk.remove(i), model.remove(i));
             case 9, 10 -> due(where, "resize(" + i + ", " + s + ")", desk.resize(i, s), model.resize(i, s));
@@ -80,11 +94,14 @@ public final class ModelTest {
             case 15 -> due(where, "leastWithout(" + i + ")", desk.leastWithout(i), model.leastWithout(i));
             case 16 -> due(where, "spare()", desk.spare(), model.spare());
             case 17 -> due(where, "sizeFor(" + n + ")", desk.sizeFor(n), model.sizeFor(n));
+            case 18 -> due(where, "sizeOf(" + i + ")", desk.sizeOf(i), model.sizeOf(i));
+            case 19 -> due(where, "size()", desk.size(), model.size);
+            case 20 -> due(where, "items()", desk.items(), model.items());
             default -> due(where, "together(" + i + ", " + j + ")", desk.together(i, j), model.together(i, j));
         }
     }
 
-    private static void compareState(String where, BinDesk desk, Model model) {
+    private static void compareState(String where, Desk desk, Model model) {
         due(where, "size()", desk.size(), model.size);
         due(where, "items()", desk.items(), model.items());
         for (int i = 0; i < 8; i++) {
@@ -92,7 +109,7 @@ public final class ModelTest {
         }
     }
 
-    private static void compareAll(String where, BinDesk desk, Model model) {
+    private static void compareAll(String where, Desk desk, Model model) {
         compareState(where, desk, model);
         due(where, "least()", desk.least(), model.least());
         due(where, "spare()", desk.spare(), model.spare());
@@ -129,10 +146,8 @@ public final class ModelTest {
     }
 
     private static void due(String where, String call, Object got, Object want) {
-        if (!got.equals(want)) {
-            wrong++;
-            System.out.println(where + ": " + call + " answered " + got + ", due is " + want);
-        }
+        Check.of(where);
+        Check.due(call, got, want);
     }
 
     /** What the document says, with no thought of speed. A size of 0 stands for no item. */
