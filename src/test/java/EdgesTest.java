@@ -3,7 +3,8 @@ import java.util.function.Supplier;
 
 /**
  * The document read sentence by sentence: a test of its own for each that names an edge (too small,
- * too large, empty, full, a call that is refused), under the words of that sentence.
+ * too large, empty, full, a call that is refused), under the promise's number and the sentence's own
+ * words, with the case in [ ] where a sentence has several.
  */
 public final class EdgesTest {
     // Beside the neighbours of 0 .. 7: numbers that a shift, a byte or a short would take for 0, 1 or 7.
@@ -167,7 +168,7 @@ public final class EdgesTest {
 
     private static void newObject() {
         test("1: No items.", EdgesTest::nothingIsThere);
-        test("1: clamped to 1 .. 60, too small", () -> {
+        test("1: clamped to 1 .. 60 [too small]", () -> {
             for (int size = -200; size <= 1; size++) {
                 clamped(size, 1);
             }
@@ -175,12 +176,12 @@ public final class EdgesTest {
             clamped(Integer.MIN_VALUE + 30, 1);
             clamped(-65536 + 30, 1);
         });
-        test("1: clamped to 1 .. 60, within", () -> {
+        test("1: clamped to 1 .. 60 [within]", () -> {
             for (int size = 1; size <= 60; size++) {
                 clamped(size, size);
             }
         });
-        test("1: clamped to 1 .. 60, too large", () -> {
+        test("1: clamped to 1 .. 60 [too large]", () -> {
             for (int size = 60; size <= 400; size++) {
                 clamped(size, 60);
             }
@@ -215,28 +216,28 @@ public final class EdgesTest {
 
     private static void add() {
         test("2: its number, the least that no item has", EdgesTest::leastFreeNumber);
-        test("2: NONE when s is not from 1 to the size of the bins, too small", () -> {
+        test("2: NONE when s is not from 1 to the size of the bins [too small]", () -> {
             for (int size = 1; size <= 60; size++) {
                 for (int s = -3; s <= 0; s++) {
                     refusedAdd(size, s);
                 }
             }
         });
-        test("2: NONE when s is not from 1 to the size of the bins, too large", () -> {
+        test("2: NONE when s is not from 1 to the size of the bins [too large]", () -> {
             for (int size = 1; size <= 60; size++) {
                 for (int s = size + 1; s <= 62; s++) {
                     refusedAdd(size, s);
                 }
             }
         });
-        test("2: NONE when s is not from 1 to the size of the bins, far off", () -> {
+        test("2: NONE when s is not from 1 to the size of the bins [far off]", () -> {
             for (int s : NEVER_A_SIZE) {
                 refusedAdd(10, s);
                 refusedAdd(60, s);
                 Check.unchanged("add(" + s + ")", SOME, d -> d.add(s), BinDesk.NONE);
             }
         });
-        test("2: NONE when s is not from 1 to the size of the bins, as it is now", EdgesTest::addAfterSetSize);
+        test("2: NONE when s is not from 1 to the size of the bins [as it is now]", EdgesTest::addAfterSetSize);
         test("2: FULL when eight are there", EdgesTest::fullOnlyWithEight);
     }
 
@@ -290,7 +291,7 @@ public final class EdgesTest {
     }
 
     private static void remove() {
-        test("3: Takes item i away, the only one", () -> {
+        test("3: Takes item i away [the only one]", () -> {
             for (int only = 0; only <= 7; only++) {
                 Desk desk = alone(only);
                 Check.due("remove(" + only + ")", desk.remove(only), true);
@@ -298,7 +299,7 @@ public final class EdgesTest {
                 Check.due("least() after it", desk.least(), 0);
             }
         });
-        test("3: Takes item i away, one of eight", () -> {
+        test("3: Takes item i away [one of eight]", () -> {
             for (int i = 0; i <= 7; i++) {
                 Desk desk = EIGHT.get();
                 Check.due("remove(" + i + ")", desk.remove(i), true);
@@ -307,7 +308,7 @@ public final class EdgesTest {
             }
         });
         test("3: false, changing nothing, when there is none", () -> forNoItem("remove", Desk::remove, false));
-        test("3: false, changing nothing, when there is none, it is gone already", () -> {
+        test("3: false, changing nothing, when there is none [it is gone already]", () -> {
             Desk desk = EIGHT.get();
             Check.due("remove(3)", desk.remove(3), true);
             Check.due("remove(3), again,", desk.remove(3), false);
@@ -349,24 +350,25 @@ public final class EdgesTest {
     }
 
     private static void resize() {
-        test("4: false, changing nothing, when there is no item i", () -> forNoItem("resize to 3", (d, i) -> d.resize(i, 3), false));
-        test("4: false, changing nothing, when ... s is not from 1 to the size of the bins, too small", () -> {
+        test("4: false, changing nothing, when there is no item i", () ->
+            forNoItem("resize to 3", (d, i) -> d.resize(i, 3), false));
+        test("4: false, changing nothing, when ... s is not from 1 to the size of the bins [too small]", () -> {
             for (int s = -3; s <= 0; s++) {
                 refusedResizes(s);
             }
         });
-        test("4: false, changing nothing, when ... s is not from 1 to the size of the bins, too large", () -> {
+        test("4: false, changing nothing, when ... s is not from 1 to the size of the bins [too large]", () -> {
             for (int s = 11; s <= 62; s++) {
                 refusedResizes(s);
             }
         });
-        test("4: false, changing nothing, when ... s is not from 1 to the size of the bins, far off", () -> {
+        test("4: false, changing nothing, when ... s is not from 1 to the size of the bins [far off]", () -> {
             for (int s : NEVER_A_SIZE) {
                 refusedResizes(s);
                 Check.unchanged("resize(0, " + s + ") in bins of 60", () -> Desk.of(60, 5), d -> d.resize(0, s), false);
             }
         });
-        test("4: false, changing nothing, when ... s is not from 1 to the size of the bins, as it is now", () -> {
+        test("4: false, changing nothing, when ... s is not from 1 to the size of the bins [as it is now]", () -> {
             Desk desk = Desk.of(10, 3);
             desk.setSize(5);
             Check.due("resize(0, 6) in bins of 5 now", desk.resize(0, 6), false);
@@ -375,12 +377,12 @@ public final class EdgesTest {
             Check.due("resize(0, 13) in bins of 12 now", desk.resize(0, 13), false);
             Check.due("resize(0, 12) in bins of 12 now", desk.resize(0, 12), true);
         });
-        test("4: both wrong", () -> {
+        test("4: there is no item i or s is not from 1 to the size of the bins [both]", () -> {
             Check.unchanged("resize(1, 0)", SOME, d -> d.resize(1, 0), false);
             Check.unchanged("resize(8, 11)", SOME, d -> d.resize(8, 11), false);
             Check.unchanged("resize(-1, -1)", EMPTY, d -> d.resize(-1, -1), false);
         });
-        test("4: Gives item i another size and answers true, also with eight there", () -> {
+        test("4: Gives item i another size and answers true [also with eight there]", () -> {
             for (int i = 0; i <= 7; i++) {
                 Desk desk = EIGHT.get();
                 Check.due("resize(" + i + ", 10)", desk.resize(i, 10), true);
@@ -407,22 +409,22 @@ public final class EdgesTest {
                 }
             }
         });
-        test("5: false, changing nothing, when size is not 1 .. 60, too small", () -> {
+        test("5: false, changing nothing, when size is not 1 .. 60 [too small]", () -> {
             for (int size = -200; size <= 0; size++) {
                 refusedSetSize(size);
             }
         });
-        test("5: false, changing nothing, when size is not 1 .. 60, too large", () -> {
+        test("5: false, changing nothing, when size is not 1 .. 60 [too large]", () -> {
             for (int size = 61; size <= 400; size++) {
                 refusedSetSize(size);
             }
         });
-        test("5: false, changing nothing, when size is not 1 .. 60, far off", () -> {
+        test("5: false, changing nothing, when size is not 1 .. 60 [far off]", () -> {
             for (int size : NEVER_A_SIZE) {
                 refusedSetSize(size);
             }
         });
-        test("5: Gives the bins another size, 1 .. 60, with no items", () -> {
+        test("5: Gives the bins another size [each of 1 .. 60, with no items]", () -> {
             for (int size = 1; size <= 60; size++) {
                 Desk desk = new Desk(30);
                 Check.due("setSize(" + size + ")", desk.setSize(size), true);
@@ -430,7 +432,7 @@ public final class EdgesTest {
             }
         });
         test("5: false, changing nothing, when ... some item is larger", EdgesTest::setSizeBelowAnItem);
-        test("5: false, changing nothing, when ... some item is larger, as they are now", () -> {
+        test("5: false, changing nothing, when ... some item is larger [as they are now]", () -> {
             Desk desk = Desk.of(10, 9, 5, 3);
             Check.due("setSize(8)", desk.setSize(8), false);
             desk.remove(0);
@@ -474,7 +476,7 @@ public final class EdgesTest {
     }
 
     private static void sizeItemsAndSizeOf() {
-        test("6: The size of the bins, the least and the greatest", () -> {
+        test("6: The size of the bins [the least and the greatest]", () -> {
             Desk desk = new Desk(1);
             Check.due("size() of the least", desk.size(), 1);
             desk.setSize(60);
@@ -485,12 +487,12 @@ public final class EdgesTest {
             desk.setSize(0);
             Check.due("size() after setSize(1) and setSize(0)", desk.size(), 1);
         });
-        test("7: bit i for item i, empty and full", () -> {
+        test("7: bit i for item i [empty and full]", () -> {
             Check.due("items() of a new object", EMPTY.get().items(), 0);
             Check.due("items() when all are gone", EMPTIED.get().items(), 0);
             Check.due("items() of eight", EIGHT.get().items(), 255);
         });
-        test("7: bit i for item i, one alone", () -> {
+        test("7: bit i for item i [one alone]", () -> {
             for (int only = 0; only <= 7; only++) {
                 Check.due("items() of " + only + " alone", alone(only).items(), 1 << only);
             }
@@ -509,7 +511,7 @@ public final class EdgesTest {
                 Check.due("least() when it is gone", desk.least(), 0);
             }
         });
-        test("9: The least count, each item in a bin of its own", () -> {
+        test("9: The least count [each item in a bin of its own]", () -> {
             Check.due("least() in bins of 1", Desk.of(1, 1, 1, 1, 1, 1, 1, 1, 1).least(), 8);
             Check.due("least() of eight of 31", Desk.of(60, 31, 31, 31, 31, 31, 31, 31, 31).least(), 8);
             Check.due("least() of eight of 60", Desk.of(60, 60, 60, 60, 60, 60, 60, 60, 60).least(), 8);
@@ -518,7 +520,7 @@ public final class EdgesTest {
 
     private static void binOf() {
         test("10: NONE when there is no item i", () -> forNoItem("binOf", Desk::binOf, BinDesk.NONE));
-        test("10: The bin of item i, one alone", () -> {
+        test("10: The bin of item i [one alone]", () -> {
             for (int only = 0; only <= 7; only++) {
                 Check.due("binOf(" + only + ")", alone(only).binOf(only), 0);
             }
@@ -527,7 +529,7 @@ public final class EdgesTest {
 
     private static void leastWithout() {
         test("11: NONE when there is no item i", () -> forNoItem("leastWithout", Desk::leastWithout, BinDesk.NONE));
-        test("11: if item i were not there, but it is", () -> {
+        test("11: if item i were not there [but it is]", () -> {
             for (int i = 0; i <= 7; i++) {
                 int number = i;
                 Check.unchanged("leastWithout(" + i + ")", EIGHT, d -> d.leastWithout(number), i < 5 ? 4 : 5);
@@ -563,7 +565,9 @@ public final class EdgesTest {
 
     /** An item of the size that spare names needs no further bin; one that is larger by 1 does. */
     private static void spareIsTheGreatest() {
-        int[][] rows = {{3}, {7, 6}, {5, 3, 5, 4}, {6, 6, 1}, {10, 10}, {4, 4, 4, 3, 3}, {9, 8, 7, 6, 5, 4, 3}, {1, 1, 2, 3, 5, 8}};
+        int[][] rows = {
+            {3}, {7, 6}, {5, 3, 5, 4}, {6, 6, 1}, {10, 10}, {4, 4, 4, 3, 3}, {9, 8, 7, 6, 5, 4, 3}, {1, 1, 2, 3, 5, 8}
+        };
         for (int[] row : rows) {
             Desk desk = Desk.of(10, row);
             int count = desk.least();
@@ -588,6 +592,11 @@ public final class EdgesTest {
             Desk desk = Desk.of(60, 2, 9, 3);
             Check.due("sizeFor(3), a bin each,", desk.sizeFor(3), 9);
             Check.due("sizeFor(2), the small ones beside the largest,", desk.sizeFor(2), 9);
+            for (int i = 0; i <= 7; i++) {
+                Desk eight = Desk.of(60, 1, 2, 3, 4, 5, 6, 7, 8);
+                eight.resize(i, 50);
+                Check.due("sizeFor(8) with " + i + " the largest", eight.sizeFor(8), 50);
+            }
         });
         test("13: the least count would be at most n", EdgesTest::sizeForIsTheLeast);
         test("13: NONE when n is not 1 .. 8", () -> {
@@ -596,7 +605,7 @@ public final class EdgesTest {
                 Check.unchanged("sizeFor(" + n + ") with eight items", EIGHT, d -> d.sizeFor(n), BinDesk.NONE);
             }
         });
-        test("13: n = 1 and n = 8 are answered", () -> {
+        test("13: NONE when n is not 1 .. 8 [but it is]", () -> {
             Check.unchanged("sizeFor(1)", EIGHT, d -> d.sizeFor(1), 44);
             Check.unchanged("sizeFor(8)", EIGHT, d -> d.sizeFor(8), 9);
         });
@@ -607,13 +616,15 @@ public final class EdgesTest {
                 Check.unchanged("sizeFor(" + n + ") when all are gone", EMPTIED, d -> d.sizeFor(count), BinDesk.NONE);
             }
         });
-        test("13: The least size that the bins could have, but they keep theirs", () ->
+        test("13: The least size that the bins could have [they keep theirs]", () ->
             Check.unchanged("sizeFor(2)", SOME, d -> d.sizeFor(2), 12));
     }
 
     /** In bins of the size that sizeFor names n are enough; in those smaller by 1 they are not. */
     private static void sizeForIsTheLeast() {
-        int[][] rows = {{3}, {7, 5, 4, 2}, {3, 3, 2, 2, 2}, {1, 1, 1, 1, 1, 1, 1, 1}, {9, 8, 7, 6, 5, 4, 3, 2}, {4, 4, 4, 3, 3}};
+        int[][] rows = {
+            {3}, {7, 5, 4, 2}, {3, 3, 2, 2, 2}, {4, 4, 4, 3, 3}, {1, 1, 1, 1, 1, 1, 1, 1}, {9, 8, 7, 6, 5, 4, 3, 2}
+        };
         for (int[] row : rows) {
             for (int n = 1; n <= 8; n++) {
                 Desk desk = Desk.of(10, row);
@@ -629,9 +640,11 @@ public final class EdgesTest {
     }
 
     private static void together() {
-        test("14: false when there is no item i", () -> forNoItem("together with 0, first", (d, i) -> d.together(i, 0), false));
-        test("14: false when there is no item ... j", () -> forNoItem("together with 0, second", (d, j) -> d.together(0, j), false));
-        test("14: false when there is no item i or j, neither", () -> {
+        test("14: false when there is no item i", () ->
+            forNoItem("together with 0", (d, i) -> d.together(i, 0), false));
+        test("14: false when there is no item ... j", () ->
+            forNoItem("together, beside 0,", (d, j) -> d.together(0, j), false));
+        test("14: false when there is no item i or j [neither]", () -> {
             Check.unchanged("together(1, 4)", SOME, d -> d.together(1, 4), false);
             Check.unchanged("together(6, 7)", SOME, d -> d.together(6, 7), false);
             Check.unchanged("together(-1, 8)", SOME, d -> d.together(-1, 8), false);
@@ -650,20 +663,22 @@ public final class EdgesTest {
                 Check.unchanged("together(" + i + ", " + i + ")", SOME, d -> d.together(i, i), false);
             }
         });
-        test("14: the items i and j the same bin, just full", () -> {
+        test("14: the items i and j the same bin [just full]", () -> {
             Check.due("together(0, 1) of 6 and 4 in bins of 10", Desk.of(10, 6, 4).together(0, 1), true);
             Check.due("together(0, 1) of 6 and 5 in bins of 10", Desk.of(10, 6, 5).together(0, 1), false);
         });
         test("14: some packing whose count is the least count", () -> {
             // 4 and 3 fit together, but 6 and 5 then need a bin each.
             Check.due("together(2, 3) with a bin too many", Desk.of(10, 6, 5, 4, 3).together(2, 3), false);
+            Check.due("together(2, 3) with the last bin for item 7",
+                Desk.of(10, 6, 5, 4, 3, 0, 0, 0, 10).together(2, 3), false);
             Check.due("together(2, 3) with four bins for three", Desk.of(10, 6, 6, 4, 3, 9).together(2, 3), false);
-            Check.due("together(2, 3) when all need three bins anyway", Desk.of(10, 6, 5, 4, 3, 4).together(2, 3), true);
+            Check.due("together(2, 3) with three bins due anyway", Desk.of(10, 6, 5, 4, 3, 4).together(2, 3), true);
         });
     }
 
     private static void orderAndLimits() {
-        test("15: In add NONE ... is tested before FULL; neither changes anything", () -> {
+        test("15: In add NONE ... is tested before FULL; neither changes anything.", () -> {
             Check.unchanged("add(0) with eight there", EIGHT, d -> d.add(0), BinDesk.NONE);
             Check.unchanged("add(11) with eight there", EIGHT, d -> d.add(11), BinDesk.NONE);
             Check.unchanged("add(10) with eight there", EIGHT, d -> d.add(10), BinDesk.FULL);
@@ -697,7 +712,7 @@ public final class EdgesTest {
             }
             Check.due("size() after it", eight.size(), 60);
         });
-        test("15: refused by a code below 0 that is named", () -> {
+        test("15: refused (by a code below 0 that is named", () -> {
             Check.due("NONE", BinDesk.NONE, -1);
             Check.due("FULL", BinDesk.FULL, -2);
         });
