@@ -593,7 +593,7 @@ public final class EdgesTest {
             Check.due("sizeFor(3), a bin each,", desk.sizeFor(3), 9);
             Check.due("sizeFor(2), the small ones beside the largest,", desk.sizeFor(2), 9);
             for (int i = 0; i <= 7; i++) {
-                Desk eight = Desk.of(60, 1, 2, 3, 4, 5, 6, 7, 8);
+                Desk eight = Desk.of(60, 40, 40, 40, 40, 40, 40, 40, 40);
                 eight.resize(i, 50);
                 Check.due("sizeFor(8) with " + i + " the largest", eight.sizeFor(8), 50);
             }
