@@ -21,6 +21,13 @@ final class Check {
         }
     }
 
+    static void holds(String what, boolean holds) {
+        if (!holds) {
+            wrong++;
+            System.out.println(sentence + ": does not hold: " + what);
+        }
+    }
+
     /** The call gives this answer, and the desk then answers as one that was never asked. */
     static void unchanged(String call, Supplier<Desk> made, Function<Desk, Object> asked, Object want) {
         Desk desk = made.get();
