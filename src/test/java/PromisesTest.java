@@ -179,6 +179,7 @@ public final class PromisesTest {
         Check.of("promise 12");
         Check.due("spare() beside 3", Desk.of(10, 3).spare(), 7);
         Check.due("spare(), the room of one bin and not of all,", Desk.of(10, 7, 6).spare(), 4);
+        Check.due("spare(), in the middle one of three,", Desk.of(10, 9, 6, 8).spare(), 4);
         // The first packing, 5+3 and 5+4, leaves 2; 5+5 and 3+4 leave 3.
         Check.due("spare(), not of the first packing alone,", Desk.of(10, 5, 3, 5, 4).spare(), 3);
         Check.due("spare() of eight", Desk.of(20, 1, 2, 3, 4, 5, 6, 7, 8).spare(), 4);
@@ -200,6 +201,7 @@ public final class PromisesTest {
         desk.remove(0);
         Check.due("sizeFor(8) when the largest is gone", desk.sizeFor(8), 5);
         Check.due("sizeFor(1) when the largest is gone", desk.sizeFor(1), 11);
+        Check.due("sizeFor(3), the middle one of three is largest,", Desk.of(10, 6, 9, 8).sizeFor(3), 9);
         Desk eight = Desk.of(1, 1, 1, 1, 1, 1, 1, 1, 1);
         int[] ones = {8, 4, 3, 2, 2, 2, 2, 1};
         for (int n = 1; n <= 8; n++) {
